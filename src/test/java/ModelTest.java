@@ -38,6 +38,7 @@ public final class ModelTest {
         for (int run = 2600; run < 2612; run++) {
             compareRun(run, 5, 4);
         }
+        compareCounter(2612);
         System.out.println(asked + " answers compared");
         System.out.println(wrong == 0 ? "all answers are as due" : wrong + " answers are not as due");
         if (wrong != 0) {
@@ -56,14 +57,14 @@ public final class ModelTest {
     }
 
     private static void compareRun(int run, int n, int d) {
-        OperatorTasks t = new OperatorTasks(n, d);
         Model m = new Model(n, d);
+        Subject t = new Subject(m);
         int operators = pick(11);
         int free = 1 + pick(4);
         int dearest = pick(3) == 0 ? 2 : 10;
         for (int o = 0; o < operators; o++) {
             int cost = pick(dearest);
-            due(run, "operator", t.operator(cost), m.addOperator(cost));
+            due(run, "operator", t.ask().operator(cost), m.addOperator(cost));
             for (int v = 0; v < n; v++) {
                 if (pick(4) >= free) {
                     setNeed(run, t, m, o, v, pick(d));
@@ -91,7 +92,32 @@ public final class ModelTest {
         }
     }
 
-    private static void change(int run, OperatorTasks t, Model m) {
+    /**
+     * Five digits, each 0 to 2, that count from 00000 to 22222: operator 2i makes digit i 1,
+     * operator 2i + 1 makes it 2, and both make the digits below, which must be 2, 0.
+     */
+    private static void compareCounter(int run) {
+        Model m = new Model(5, 3);
+        Subject t = new Subject(m);
+        for (int o = 0; o < 10; o++) {
+            due(run, "operator", t.ask().operator(9 - o), m.addOperator(9 - o));
+            for (int v = 0; v < o / 2; v++) {
+                setNeed(run, t, m, o, v, 2);
+                setEffect(run, t, m, o, v, 0);
+            }
+            setNeed(run, t, m, o, o / 2, o % 2);
+            setEffect(run, t, m, o, o / 2, o % 2 + 1);
+        }
+        for (int v = 0; v < 5; v++) {
+            setGoal(run, t, m, v, 2);
+        }
+        compare(run, t, m);
+        setBegin(run, t, m, 4, 1);
+        setGoal(run, t, m, 0, -1);
+        compare(run, t, m);
+    }
+
+    private static void change(int run, Subject t, Model m) {
         int v = pick(m.n);
         int operators = m.costs.size();
         int kind = pick(operators == 0 ? 2 : 4);
@@ -106,54 +132,50 @@ public final class ModelTest {
         }
     }
 
-    private static void setNeed(int run, OperatorTasks t, Model m, int o, int v, int x) {
-        int old = m.needs.get(o)[v];
+    private static void setNeed(int run, Subject t, Model m, int o, int v, int x) {
+        due(run, "need", t.ask().need(o, v, x), m.needs.get(o)[v]);
         m.needs.get(o)[v] = x;
-        due(run, "need", t.need(o, v, x), old);
     }
 
-    private static void setEffect(int run, OperatorTasks t, Model m, int o, int v, int x) {
-        int old = m.effects.get(o)[v];
+    private static void setEffect(int run, Subject t, Model m, int o, int v, int x) {
+        due(run, "effect", t.ask().effect(o, v, x), m.effects.get(o)[v]);
         m.effects.get(o)[v] = x;
-        due(run, "effect", t.effect(o, v, x), old);
     }
 
-    private static void setBegin(int run, OperatorTasks t, Model m, int v, int x) {
-        int old = m.begin[v];
+    private static void setBegin(int run, Subject t, Model m, int v, int x) {
+        due(run, "begin", t.ask().begin(v, x), m.begin[v]);
         m.begin[v] = x;
-        due(run, "begin", t.begin(v, x), old);
     }
 
-    private static void setGoal(int run, OperatorTasks t, Model m, int v, int x) {
-        int old = m.goal[v];
+    private static void setGoal(int run, Subject t, Model m, int v, int x) {
+        due(run, "goal", t.ask().goal(v, x), m.goal[v]);
         m.goal[v] = x;
-        due(run, "goal", t.goal(v, x), old);
     }
 
-    private static void compare(int run, OperatorTasks t, Model m) {
+    private static void compare(int run, Subject t, Model m) {
         comparePlan(run, t, m);
         Set<List<Integer>> reached = m.reachedFrom(m.beginState());
-        due(run, "reached", t.reached(), reached.size());
+        due(run, "reached", t.ask().reached(), reached.size());
         compareWays(run, t, m, reached);
         compareFacts(run, t, m, reached);
         compareBounds(run, t, m);
-        due(run, "relaxed", t.relaxed(), orNone(m.relaxed()));
+        due(run, "relaxed", t.ask().relaxed(), orNone(m.relaxed()));
     }
 
-    private static void comparePlan(int run, OperatorTasks t, Model m) {
+    private static void comparePlan(int run, Subject t, Model m) {
         List<Integer> plan = m.bestPlan();
         boolean none = plan == null;
-        due(run, "cost", t.cost(), none ? OperatorTasks.NONE : m.costOf(plan));
-        due(run, "length", t.length(), none ? OperatorTasks.NONE : plan.size());
+        due(run, "cost", t.ask().cost(), none ? OperatorTasks.NONE : m.costOf(plan));
+        due(run, "length", t.ask().length(), none ? OperatorTasks.NONE : plan.size());
         int steps = none ? 0 : plan.size();
         for (int i = 0; i < steps; i++) {
-            due(run, "step " + i, t.step(i), plan.get(i));
+            due(run, "step " + i, t.ask().step(i), plan.get(i));
         }
-        due(run, "step " + steps, t.step(steps), OperatorTasks.NONE);
-        due(run, "step -1", t.step(-1), OperatorTasks.NONE);
+        due(run, "step " + steps, t.ask().step(steps), OperatorTasks.NONE);
+        due(run, "step -1", t.ask().step(-1), OperatorTasks.NONE);
     }
 
-    private static void compareWays(int run, OperatorTasks t, Model m, Set<List<Integer>> reached) {
+    private static void compareWays(int run, Subject t, Model m, Set<List<Integer>> reached) {
         int dead = 0;
         int returning = 0;
         for (List<Integer> state : reached) {
@@ -165,21 +187,21 @@ public final class ModelTest {
                 returning++;
             }
         }
-        due(run, "dead", t.dead(), dead);
-        due(run, "returning", t.returning(), returning);
+        due(run, "dead", t.ask().dead(), dead);
+        due(run, "returning", t.ask().returning(), returning);
     }
 
-    private static void compareFacts(int run, OperatorTasks t, Model m, Set<List<Integer>> reached) {
+    private static void compareFacts(int run, Subject t, Model m, Set<List<Integer>> reached) {
         boolean plan = reached.stream().anyMatch(m::isGoal);
         for (int o = 0; o < m.costs.size(); o++) {
-            due(run, "needed " + o, t.needed(o), plan && !m.planWithout(o, -1, -1));
+            due(run, "needed " + o, t.ask().needed(o), plan && !m.planWithout(o, -1, -1));
         }
         for (int v = 0; v < m.n; v++) {
             for (int x = 0; x < m.d; x++) {
-                due(run, "passes " + v + " " + x, t.passes(v, x), plan && !m.planWithout(-1, v, x));
+                due(run, "passes " + v + " " + x, t.ask().passes(v, x), plan && !m.planWithout(-1, v, x));
                 for (int u = 0; u < m.n; u++) {
                     for (int y = 0; y < m.d; y++) {
-                        due(run, "apart " + v + " " + x + " " + u + " " + y, t.apart(v, x, u, y),
+                        due(run, "apart " + v + " " + x + " " + u + " " + y, t.ask().apart(v, x, u, y),
                                 m.apart(reached, v, x, u, y));
                     }
                 }
@@ -187,29 +209,68 @@ public final class ModelTest {
         }
     }
 
-    private static void compareBounds(int run, OperatorTasks t, Model m) {
+    private static void compareBounds(int run, Subject t, Model m) {
         Map<Set<Integer>, Long> one = m.bounds(1);
         Map<Set<Integer>, Long> two = m.bounds(2);
         for (int v = 0; v < m.n; v++) {
             for (int x = 0; x < m.d; x++) {
                 int f = 10 * v + x;
-                due(run, "single " + v + " " + x, t.single(v, x), orNone(one.get(Set.of(f))));
+                due(run, "single " + v + " " + x, t.ask().single(v, x), orNone(one.get(Set.of(f))));
                 for (int u = 0; u < m.n; u++) {
                     for (int y = 0; y < m.d; y++) {
                         Set<Integer> set = new HashSet<>(List.of(f, 10 * u + y));
                         due(run, "paired " + v + " " + x + " " + u + " " + y,
-                                t.paired(v, x, u, y), orNone(two.get(set)));
+                                t.ask().paired(v, x, u, y), orNone(two.get(set)));
                     }
                 }
             }
         }
         Set<Integer> goal = Model.factsOf(m.goal);
-        due(run, "singleGoal", t.singleGoal(), orNone(Model.greatest(one, goal, 1)));
-        due(run, "pairedGoal", t.pairedGoal(), orNone(Model.greatest(two, goal, 2)));
+        due(run, "singleGoal", t.ask().singleGoal(), orNone(Model.greatest(one, goal, 1)));
+        due(run, "pairedGoal", t.ask().pairedGoal(), orNone(Model.greatest(two, goal, 2)));
     }
 
     private static int orNone(long number) {
         return number >= INFINITE ? OperatorTasks.NONE : (int) number;
+    }
+
+    /**
+     * The object under test. What it answers after its 512th call is free, so then a new one is
+     * made, and brought by calls to where the model is.
+     */
+    private static final class Subject {
+        private final Model m;
+        private OperatorTasks object;
+        private int calls = 0;
+
+        Subject(Model m) {
+            this.m = m;
+            object = new OperatorTasks(m.n, m.d);
+        }
+
+        OperatorTasks ask() {
+            if (calls == 512) {
+                rebuild();
+            }
+            calls++;
+            return object;
+        }
+
+        private void rebuild() {
+            object = new OperatorTasks(m.n, m.d);
+            calls = 0;
+            for (int o = 0; o < m.costs.size(); o++) {
+                ask().operator(m.costs.get(o));
+                for (int v = 0; v < m.n; v++) {
+                    ask().need(o, v, m.needs.get(o)[v]);
+                    ask().effect(o, v, m.effects.get(o)[v]);
+                }
+            }
+            for (int v = 0; v < m.n; v++) {
+                ask().begin(v, m.begin[v]);
+                ask().goal(v, m.goal[v]);
+            }
+        }
     }
 
     /** The task once more, with a fact as 10 times its variable plus its value. */
