@@ -472,6 +472,14 @@ public final class BoundaryTest {
             due("dead()", t.dead(), 0);
             t.need(2, 0, 3);
             due("dead() without the way back", t.dead(), 1);
+            OperatorTasks far = upAndDown(5);
+            aim(far, all(5, 0));
+            due("dead() where the goal is far back", far.dead(), 0);
+            far.goal(4, 1);
+            due("dead() where the goal is halfway", far.dead(), 0);
+            far.need(9, 4, 0);
+            aim(far, all(5, 0));
+            due("dead() where the upper half has no way back", far.dead(), 16);
         });
     }
 
@@ -483,6 +491,24 @@ public final class BoundaryTest {
         add(t, 1, facts(0, 2), facts(0, 1));
         add(t, 0, facts(0, 1), facts(0, 3));
         t.goal(0, 3);
+        return t;
+    }
+
+    /**
+     * Counts with this many digits 0 and 1 upwards by operators of cost 9, one for each digit, and
+     * downwards by as many of cost 0.
+     */
+    private static OperatorTasks upAndDown(int digits) {
+        OperatorTasks t = new OperatorTasks(digits, 2);
+        for (int from = 0; from < 2; from++) {
+            for (int i = 0; i < digits; i++) {
+                int[] needs = all(i + 1, 1 - from);
+                int[] effects = all(i + 1, from);
+                needs[2 * i + 1] = from;
+                effects[2 * i + 1] = 1 - from;
+                add(t, from == 0 ? 9 : 0, needs, effects);
+            }
+        }
         return t;
     }
 
@@ -498,6 +524,10 @@ public final class BoundaryTest {
         });
         of("of those with the least cost: more operators may cost less", () -> {
             duePlan(backward(), 2, 1, 2, 3);
+            OperatorTasks t = upAndDown(4);
+            add(t, 0, all(4, 0), all(4, 1));
+            aim(t, 0, 1, 1, 0, 2, 0, 3, 0);
+            duePlan(t, 0, 8, 4, 5, 4, 6, 4, 5, 4, 7, 4, 5, 4, 6, 4, 5);
         });
         of("of these those with the fewest operators", () -> {
             OperatorTasks t = new OperatorTasks(1, 4);
@@ -694,9 +724,12 @@ public final class BoundaryTest {
             due("paired(0, 3, 1, 0) with a way in", t.paired(0, 3, 1, 0), NONE);
         });
         of("bounds are the greatest numbers: a long row of facts is followed to its end", () -> {
-            OperatorTasks t = backwardRow();
-            due("single(4, 2)", t.single(4, 2), 10);
-            due("paired(4, 2, 4, 2)", t.paired(4, 2, 4, 2), 10);
+            OperatorTasks up = row(true);
+            due("single(4, 2)", up.single(4, 2), 10);
+            due("paired(4, 2, 4, 2)", up.paired(4, 2, 4, 2), 10);
+            OperatorTasks down = row(false);
+            due("single(0, 1)", down.single(0, 1), 10);
+            due("paired(0, 1, 0, 1)", down.paired(0, 1, 0, 1), 10);
         });
     }
 
@@ -735,12 +768,16 @@ public final class BoundaryTest {
         return t;
     }
 
-    /** Ten facts in a row, each by an operator of cost 1 with the fact before it as its need. */
-    private static OperatorTasks backwardRow() {
+    /**
+     * The ten facts that the begin has not, from (0, 1) up to (4, 2) or from there down, each by
+     * an operator of cost 1 with the fact before it as its need. The last has the first operator.
+     */
+    private static OperatorTasks row(boolean up) {
         OperatorTasks t = new OperatorTasks(5, 3);
         for (int o = 0; o < 10; o++) {
-            int place = 9 - o;
-            int[] needs = place == 0 ? facts() : facts((place - 1) / 2, (place - 1) % 2 + 1);
+            int place = up ? 9 - o : o;
+            int from = up ? place - 1 : place + 1;
+            int[] needs = o == 9 ? facts() : facts(from / 2, from % 2 + 1);
             add(t, 1, needs, facts(place / 2, place % 2 + 1));
         }
         return t;
@@ -788,9 +825,12 @@ public final class BoundaryTest {
             due("relaxed() with a way in", t.relaxed(), 4);
         });
         of("or that are effects of operators before it in the list: against the numbers", () -> {
-            OperatorTasks t = backwardRow();
-            t.goal(4, 2);
-            due("relaxed()", t.relaxed(), 10);
+            OperatorTasks up = row(true);
+            up.goal(4, 2);
+            due("relaxed()", up.relaxed(), 10);
+            OperatorTasks down = row(false);
+            down.goal(0, 1);
+            due("relaxed()", down.relaxed(), 10);
         });
         of("the begin's facts stay, whatever the effects are", () -> {
             OperatorTasks t = new OperatorTasks(2, 2);
@@ -1631,6 +1671,7 @@ public final class BoundaryTest {
             due("returning()", t.returning(), 3);
             t.need(2, 0, 3);
             due("returning() without the way back", t.returning(), 2);
+            due("returning() from far", upAndDown(5).returning(), 32);
         });
         of("15: only reached states count", () -> {
             OperatorTasks t = new OperatorTasks(1, 3);
