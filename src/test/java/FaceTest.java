@@ -5,8 +5,12 @@ import java.lang.reflect.Method;
 import java.lang.reflect.Modifier;
 import java.nio.file.Files;
 import java.nio.file.Path;
+import java.util.ArrayDeque;
+import java.util.Deque;
 import java.util.List;
+import java.util.Map;
 import java.util.Set;
+import java.util.TreeMap;
 import java.util.TreeSet;
 import java.util.regex.Matcher;
 import java.util.regex.Pattern;
@@ -109,9 +113,54 @@ public final class FaceTest {
         }
         // a method's body stands between its head and the brace at the head's own depth
         Matcher body = Pattern.compile("(?ms)^    (?:public|private)[^;={]*\\{\n.*?^    \\}").matcher(code);
+        Map<String, String> bodies = new TreeMap<>();
         while (body.find()) {
-            due("short: " + body.group().lines().findFirst().orElse("").trim(),
-                    body.group().lines().count() <= 60, true);
+            String head = body.group().lines().findFirst().orElse("").trim();
+            due("short: " + head, body.group().lines().count() <= 60, true);
+            String name = head.replaceAll("\\(.*", "").replaceAll(".* ", "");
+            due("second method " + name, bodies.containsKey(name), false);
+            bodies.put(name, body.group().substring(body.group().indexOf('{')));
+        }
+        due("bodies", bodies.size(), OperatorTasks.class.getDeclaredMethods().length + 1);
+        for (String name : bodies.keySet()) {
+            due("call in a call's arguments in " + name,
+                    callInArguments(bodies.get(name), bodies.keySet()), false);
+        }
+        callsEnd(bodies);
+    }
+
+    private static boolean callInArguments(String body, Set<String> names) {
+        Deque<Boolean> open = new ArrayDeque<>();
+        for (int i = 0; i < body.length(); i++) {
+            if (body.charAt(i) == '(') {
+                String before = body.substring(0, i).replaceAll("(?s).*?(\\w*)$", "$1");
+                boolean call = names.contains(before);
+                if (call && open.contains(true)) {
+                    return true;
+                }
+                open.push(call);
+            } else if (body.charAt(i) == ')') {
+                open.pop();
+            }
+        }
+        return false;
+    }
+
+    /** A method is placed one above the highest that it calls; one that calls itself has no place. */
+    private static void callsEnd(Map<String, String> bodies) {
+        Map<String, Integer> depth = new TreeMap<>();
+        for (int round = 0; round < bodies.size(); round++) {
+            for (String name : bodies.keySet()) {
+                Set<String> called = new TreeSet<>(bodies.keySet());
+                called.removeIf(c -> !bodies.get(name).matches("(?s).*\\b" + c + "\\(.*"));
+                if (depth.keySet().containsAll(called)) {
+                    depth.put(name, 1 + called.stream().mapToInt(depth::get).max().orElse(0));
+                }
+            }
+        }
+        due("methods that come to no end", bodies.size() - depth.size(), 0);
+        for (String name : depth.keySet()) {
+            due(name + " goes at most six deep", depth.get(name) <= 6, true);
         }
     }
 }
